@@ -179,12 +179,12 @@ public final class PhraseReader {
     // ---- reading
 
     public int fault() {
-        learnReading();
+        reading.learn(now, text);
         return reading.exists() ? NONE : reading.farthest(now, text);
     }
 
     public int readings() {
-        learnReading();
+        reading.learn(now, text);
         return (int) Math.min(reading.waysFrom(0), MOST_READINGS);
     }
 
@@ -192,7 +192,7 @@ public final class PhraseReader {
         if (k < 0 || what < 0 || what > 2) {
             return BAD;
         }
-        learnReading();
+        reading.learn(now, text);
         if (!reading.exists()) {
             return STATE;
         }
@@ -207,7 +207,7 @@ public final class PhraseReader {
         if (!now.has(m) || k < 0) {
             return BAD;
         }
-        learnReading();
+        reading.learn(now, text);
         if (!reading.exists()) {
             return STATE;
         }
@@ -224,24 +224,20 @@ public final class PhraseReader {
     }
 
     public int next() {
-        learnReading();
-        return reading.goingOn(now, text);
+        reading.learn(now, text);
+        return reading.membersGoingOn(now, text);
     }
 
     public int normal(int i) {
         if (i < 0) {
             return BAD;
         }
-        learnReading();
+        reading.learn(now, text);
         if (!reading.exists()) {
             return STATE;
         }
         formNormal();
         return normalForm.at(i);
-    }
-
-    private void learnReading() {
-        reading.learn(now, text);
     }
 
     private void formNormal() {
@@ -277,7 +273,7 @@ public final class PhraseReader {
     }
 
     public long rank() {
-        learnReading();
+        reading.learn(now, text);
         if (!reading.exists()) {
             return STATE;
         }
@@ -486,7 +482,8 @@ public final class PhraseReader {
         }
 
         private int letter(int i) {
-            return i < wordLength() ? word >> 8 * i & 0xff : NONE;
+            int code = i >= 0 && i < MOST_LETTERS ? word >> 8 * i & 0xff : 0;
+            return code == 0 ? NONE : code;
         }
 
         private boolean clashesWith(Member other) {
@@ -730,6 +727,7 @@ public final class PhraseReader {
     /** How the text can be read; it stands until the text or the declarations change. */
     private static final class Reading {
         private final int[] ends = new int[TALLIES];
+        private final int[] steps = new int[TALLIES];
         private final long[] ways = new long[TALLIES];
         private final int[] members = new int[MOST_OCCURRENCES];
         private final int[] starts = new int[MOST_OCCURRENCES];
@@ -760,6 +758,11 @@ public final class PhraseReader {
             return tally >= 0 && tally < ends.length ? ends[tally] : NONE;
         }
 
+        /** The set of the members that the text has behind the lists of a tally. */
+        private int stepsFrom(int tally) {
+            return tally >= 0 && tally < steps.length ? steps[tally] : 0;
+        }
+
         /** In how many ways the lists of a tally that fit the text can be made readings. */
         private long waysFrom(int tally) {
             return tally >= 0 && tally < ways.length ? ways[tally] : 0;
@@ -778,24 +781,31 @@ public final class PhraseReader {
         }
 
         private void findEnds(Declarations now, Bytes text) {
-            for (int t = 0; t < ends.length; t++) {
+            for (int t = 0; t < ends.length && t < steps.length; t++) {
                 ends[t] = t == 0 ? 0 : NONE;
+                steps[t] = 0;
             }
-            for (int t = 0; t < now.tallies(); t++) {
+            for (int t = 0; t < now.tallies() && t < steps.length; t++) {
                 if (endOf(t) >= 0) {
-                    lengthen(t, now, text);
+                    steps[t] = findSteps(t, now, text);
                 }
             }
         }
 
-        private void lengthen(int tally, Declarations now, Bytes text) {
+        /** The members that go on in the text behind the lists of a tally; marks where they end. */
+        private int findSteps(int tally, Declarations now, Bytes text) {
+            int start = startBehind(tally, now, text);
+            int followers = start >= 0 ? now.followers(tally) : 0;
+            int found = 0;
             for (int m = 0; m < now.count; m++) {
-                int end = endWith(tally, m, now, text);
+                int end = bitOf(followers, m) == 1 ? text.endOf(now.at(m), start) : NONE;
                 int longer = withOneMore(tally, m);
                 if (end >= 0 && longer >= 0 && longer < ends.length) {
                     ends[longer] = end;
+                    found |= 1 << m;
                 }
             }
+            return found;
         }
 
         /** Where an occurrence behind the lists of a tally begins, or NONE if none can. */
@@ -807,15 +817,6 @@ public final class PhraseReader {
             return text.at(end) == now.separator ? end + 1 : NONE;
         }
 
-        /** Where the lists of a tally end when a member is put behind them, or NONE. */
-        private int endWith(int tally, int m, Declarations now, Bytes text) {
-            int start = startBehind(tally, now, text);
-            if (start < 0 || bitOf(now.followers(tally), m) == 0) {
-                return NONE;
-            }
-            return text.endOf(now.at(m), start);
-        }
-
         private void countWays(Declarations now, Bytes text) {
             for (int t = Math.min(now.tallies(), ways.length) - 1; t >= 0; t--) {
                 ways[t] = endOf(t) >= 0 ? countFrom(t, now, text) : 0;
@@ -825,7 +826,7 @@ public final class PhraseReader {
         private long countFrom(int tally, Declarations now, Bytes text) {
             long sum = endOf(tally) == text.length && now.isEnough(tally) ? 1 : 0;
             for (int m = 0; m < now.count; m++) {
-                if (endWith(tally, m, now, text) >= 0) {
+                if (bitOf(stepsFrom(tally), m) == 1) {
                     sum += waysFrom(withOneMore(tally, m));
                 }
             }
@@ -836,7 +837,7 @@ public final class PhraseReader {
             count = 0;
             int tally = 0;
             for (int k = 0; k < members.length && k < starts.length && k < numbers.length; k++) {
-                int m = firstBehind(tally, now, text);
+                int m = firstBehind(tally, now);
                 if (m < 0) {
                     return;
                 }
@@ -850,9 +851,9 @@ public final class PhraseReader {
         }
 
         /** The least member behind the lists of a tally in a reading, or NONE. */
-        private int firstBehind(int tally, Declarations now, Bytes text) {
+        private int firstBehind(int tally, Declarations now) {
             for (int m = 0; m < now.count; m++) {
-                if (endWith(tally, m, now, text) >= 0 && waysFrom(withOneMore(tally, m)) > 0) {
+                if (bitOf(stepsFrom(tally), m) == 1 && waysFrom(withOneMore(tally, m)) > 0) {
                     return m;
                 }
             }
@@ -884,7 +885,7 @@ public final class PhraseReader {
             return farthest;
         }
 
-        private int goingOn(Declarations now, Bytes text) {
+        private int membersGoingOn(Declarations now, Bytes text) {
             boolean isBeginning = false;
             int followers = 0;
             for (int t = 0; t < now.tallies(); t++) {

@@ -146,6 +146,14 @@ public final class DeclarationTest {
         check.due("set(1, 3, 0)", x.set(1, 3, 0), 1);
         check.due("set(0, 0, 2)", x.set(0, 0, 2), 0);
         check.same("set", Check.declared(x), "2 members, separator 0; a 2 0 1 0 before 0; b 0 3 3 0 before 0");
+        PhraseReader z = new PhraseReader();
+        Check.declare(z, "a", 0, 1, 3);
+        check.due("set(0, 2, 1): the least is as great", z.set(0, 2, 1), 3);
+        check.due("set(0, 2, 2)", z.set(0, 2, 2), 1);
+        check.due("set(0, 1, 2): the greatest is as great", z.set(0, 1, 2), 1);
+        check.due("set(0, 2, 2)", z.set(0, 2, 2), 2);
+        check.due("set(0, 1, 0)", z.set(0, 1, 0), 2);
+        check.due("set(0, 2, 1)", z.set(0, 2, 1), 2);
         PhraseReader y = new PhraseReader();
         Check.declare(y, "a", 0, 0, 1);
         check.due("set to what it was", y.set(0, 0, 0), 0);

@@ -13,6 +13,7 @@ public final class ReadingTest {
         readings();
         readingsAreCut();
         readingsFollowChanges();
+        removedMembersSayNothing();
         occurrence();
         occurrenceOfTheFirstReading();
         numbers();
@@ -253,6 +254,25 @@ public final class ReadingTest {
         check.due("fault() after declare", x.fault(), Check.NONE);
     }
 
+    private static void removedMembersSayNothing() {
+        PhraseReader x = new PhraseReader();
+        Check.declare(x, "b", 0, 0, 1);
+        Check.declare(x, "a", 0, 2, 3);
+        Check.text(x, "b");
+        check.due("readings()", x.readings(), 0);
+        check.due("next()", x.next(), 2);
+        x.remove(1);
+        check.due("readings() after remove", x.readings(), 1);
+        check.due("fault() after remove", x.fault(), Check.NONE);
+        check.due("next() after remove", x.next(), 0);
+        check.due("orders(-1) after remove", x.orders(-1), 2);
+        check.due("told(6) after remove", x.told(6), 0);
+        check.due("told(7) after remove", x.told(7), 1);
+        x.undo();
+        check.due("readings() after undo", x.readings(), 0);
+        check.due("told(6) after undo", x.told(6), 2);
+    }
+
     private static void dueOccurrence(PhraseReader x, int k, int member, int start, int value) {
         check.due("occurrence(" + k + ", 0)", x.occurrence(k, 0), member);
         check.due("occurrence(" + k + ", 1)", x.occurrence(k, 1), start);
@@ -423,6 +443,12 @@ public final class ReadingTest {
         check.same("normal of one", Check.normal(x), "yB");
         Check.text(x, "");
         check.same("normal of the empty text", Check.normal(x), "");
+        PhraseReader z = new PhraseReader();
+        Check.declare(z, "a", 0, 0, 1);
+        Check.declare(z, "b", 0, 0, 2);
+        z.setSeparator(38);
+        Check.text(z, "b&a&b");
+        check.same("normal of words of one byte", Check.normal(z), "a&b&b");
         PhraseReader y = new PhraseReader();
         Check.declare(y, "zzz", 1, 0, 3);
         Check.declare(y, "xxx", 1, 0, 3);
