@@ -781,11 +781,12 @@ public final class PhraseReader {
         }
 
         private void findEnds(Declarations now, Bytes text) {
-            for (int t = 0; t < ends.length && t < steps.length; t++) {
+            int tallies = now.tallies();
+            for (int t = 0; t < tallies && t < ends.length; t++) {
                 ends[t] = t == 0 ? 0 : NONE;
-                steps[t] = 0;
             }
-            for (int t = 0; t < now.tallies() && t < steps.length; t++) {
+            for (int t = 0; t < tallies && t < steps.length; t++) {
+                steps[t] = 0;
                 if (endOf(t) >= 0) {
                     steps[t] = findSteps(t, now, text);
                 }

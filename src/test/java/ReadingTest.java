@@ -153,6 +153,14 @@ public final class ReadingTest {
         dueFault(x, "abcQabc", 6);
         dueFault(x, "abcQabab5b", 9);
         dueFault(x, "abcQab5ab", Check.NONE);
+        x.set(0, 0, 1);
+        x.set(0, 1, 1);
+        x.set(1, 0, 0);
+        dueFault(x, "ab", 2);
+        dueFault(x, "a3ab", Check.NONE);
+        x.set(0, 0, 2);
+        dueFault(x, "ab", 2);
+        dueFault(x, "aCab", Check.NONE);
     }
 
     private static void faultOfSixtyBytes() {
