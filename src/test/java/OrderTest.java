@@ -133,20 +133,27 @@ public final class OrderTest {
     }
 
     private static void rank() {
+        PhraseReader none = new PhraseReader();
+        check.due("rank() of the empty text without members", none.rank(), 0);
+        none.write('a');
+        check.due("rank() without a reading", none.rank(), Check.STATE);
+        long orders = threeKinds().orders(-1);
+        for (long n = 0; n < orders; n++) {
+            PhraseReader x = threeKinds();
+            String order = Check.order(x, n);
+            Check.text(x, phrase(order));
+            check.due("rank() of order " + n + " (" + order + ")", x.rank(), n);
+        }
+    }
+
+    private static PhraseReader threeKinds() {
         PhraseReader x = new PhraseReader();
-        check.due("rank() of the empty text without members", x.rank(), 0);
-        x.write('a');
-        check.due("rank() without a reading", x.rank(), Check.STATE);
         Check.declare(x, "a", 1, 0, 2);
         Check.declare(x, "b", 2, 0, 2);
         Check.declare(x, "c", 0, 1, 1);
         x.setSeparator(33);
         x.rule(1, 0, 1);
-        for (long n = 0; n < x.orders(-1); n++) {
-            String order = Check.order(x, n);
-            Check.text(x, phrase(order));
-            check.due("rank() of order " + n + " (" + order + ")", x.rank(), n);
-        }
+        return x;
     }
 
     private static String phrase(String order) {

@@ -10,6 +10,7 @@ public final class ReadingTest {
         faultUnderRules();
         faultOfClashingWords();
         faultOfSixtyBytes();
+        faultOfSixtyBytesThatClash();
         readings();
         readingsAreCut();
         readingsFollowChanges();
@@ -163,29 +164,40 @@ public final class ReadingTest {
         dueFault(x, "aCab", Check.NONE);
     }
 
-    private static void faultOfSixtyBytes() {
+    private static final String FIFTY_ONE = "xay001!xay01!xay1!xby100!xby10!xby0!xcy9!xcy999!xcy";
+
+    private static PhraseReader threeNumbers() {
         PhraseReader x = new PhraseReader();
         for (char c = 'a'; c <= 'c'; c++) {
             Check.declare(x, "x" + c + "y", 1, 0, 3);
         }
         x.setSeparator(33);
-        String text = "xay001!xay01!xay1!xby100!xby10!xby0!xcy9!xcy999!xcy";
-        dueFault(x, text, text.length());
-        Check.text(x, text + "000");
+        return x;
+    }
+
+    private static void faultOfSixtyBytes() {
+        PhraseReader x = threeNumbers();
+        dueFault(x, FIFTY_ONE, FIFTY_ONE.length());
+        Check.text(x, FIFTY_ONE + "000");
         check.due("fault() of 54 bytes", x.fault(), Check.NONE);
         check.due("occurrence(8, 1)", x.occurrence(8, 1), 48);
         x.set(0, 0, 1);
         Check.declare(x, "d", 0, 0, 3);
-        dueFault(x, text + "000!d!d!d", Check.NONE);
+        dueFault(x, FIFTY_ONE + "000!d!d!d", Check.NONE);
         check.due("told(4)", x.told(4), 60);
         check.due("fault() with a byte too many", x.write('d'), Check.FULL);
-        dueFault(x, text + "000!d!d!!", 59);
-        dueFault(x, text + "000!d!d!x", 59);
+        dueFault(x, FIFTY_ONE + "000!d!d!!", 59);
+        dueFault(x, FIFTY_ONE + "000!d!d!x", 59);
+    }
+
+    private static void faultOfSixtyBytesThatClash() {
+        PhraseReader x = threeNumbers();
+        Check.declare(x, "d", 0, 0, 3);
         Check.declare(x, "dd", 0, 0, 3);
-        dueFault(x, text + "000!dd!dd", Check.NONE);
-        dueFault(x, text + "000!d!d!e", 59);
+        dueFault(x, FIFTY_ONE + "000!dd!dd", Check.NONE);
+        dueFault(x, FIFTY_ONE + "000!d!d!e", 59);
         x.set(3, 2, 1);
-        Check.text(x, text + "000!d!dd!");
+        Check.text(x, FIFTY_ONE + "000!d!dd!");
         check.due("fault() of 60 bytes that go on", x.fault(), 60);
         check.due("next()", x.next(), Check.NONE);
     }
