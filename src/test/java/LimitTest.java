@@ -223,6 +223,10 @@ public final class LimitTest {
             check.due("value(0, 0)", x.value(0, 0), v);
             was = v;
         }
+        x.set(0, 3, 999);
+        x.remove(0);
+        check.due("declare after remove", Check.declare(x, "a", 1, 0, 1), 0);
+        check.due("member(0, 3) of a new member", x.member(0, 3), 0);
     }
 
     /** "The separator is 0 (there is none; at first) or a byte from 33 to 47" */

@@ -13,6 +13,7 @@ public final class PhraseEdgeTest {
         emptyTextIsAPhrase();
         emptyTextIsNoPhrase();
         rulesAboutAllOccurrences();
+        rulesAreTakenOneByOne();
         firstReadingIsMeant();
         noneOneAndManyReadings();
         readingsBesideTheGreatest();
@@ -193,6 +194,25 @@ public final class PhraseEdgeTest {
             x.rule(0, 1, 1);
             boolean both = texts[i].indexOf('a') >= 0 && texts[i].indexOf('b') >= 0;
             dueReadings(x, texts[i], both ? 0 : 1);
+        }
+    }
+
+    /** "by a rule about both (not by way of others)": a before b and b before c don't make a before c. */
+    private static void rulesAreTakenOneByOne() {
+        String[] texts = {"ca", "c", "abc", "ac", "cab", "cb", "ba", "acb", "bca"};
+        int[] faults = {Check.NONE, Check.NONE, Check.NONE, Check.NONE, 2, 1, 1, 2, 2};
+        int[] nexts = {0, 1, 0, 0, Check.NONE, Check.NONE, Check.NONE, Check.NONE, Check.NONE};
+        for (int i = 0; i < texts.length; i++) {
+            PhraseReader x = States.letters(3, 0, 1);
+            x.rule(0, 1, 1);
+            x.rule(1, 2, 1);
+            Check.text(x, texts[i]);
+            check.due("fault() of <" + texts[i] + ">", x.fault(), faults[i]);
+            check.due("next() of <" + texts[i] + ">", x.next(), nexts[i]);
+            check.due("member(0, 8)", x.member(0, 8), 2);
+            check.due("member(1, 8)", x.member(1, 8), 4);
+            check.due("member(2, 8)", x.member(2, 8), 0);
+            check.due("told(2)", x.told(2), 2);
         }
     }
 
